@@ -790,7 +790,6 @@ public final class VillageBall {
 
         void clear() {
             length = 0;
-            place = 0;
         }
 
         char letterHere() {
