@@ -259,12 +259,13 @@ public final class VillageBall {
         if (!isIn(what, 0, 1)) {
             return BAD;
         }
-        int best = 0;
-        int soonest = restsWithBank(0);
-        for (int c = 1; c < now.village.cells; c++) {
-            int rests = restsWithBank(c);
-            if (rests < soonest) {
-                soonest = rests;
+        int best = NONE;
+        int soonest = now.village.cells + 1;
+        for (int c = 0; c < now.village.cells; c++) {
+            trial.begin(now.scene);
+            trial.rollToRest(now.village, c);
+            if (trial.scene.place < soonest) {
+                soonest = trial.scene.place;
                 best = c;
             }
         }
@@ -278,12 +279,14 @@ public final class VillageBall {
         if (now.scene.wheres[thing] < 0) {
             return NOT;
         }
-        int best = 0;
-        int greatest = greatWithThingAt(thing, 0);
-        for (int c = 1; c < now.village.cells; c++) {
-            int great = greatWithThingAt(thing, c);
-            if (great > greatest) {
-                greatest = great;
+        int best = NONE;
+        int greatest = 0;
+        for (int c = 0; c < now.village.cells; c++) {
+            trial.begin(now.scene);
+            trial.scene.putAt(thing, c);
+            trial.rollToRest(now.village, NO_BANK);
+            if (trial.scene.great > greatest) {
+                greatest = trial.scene.great;
                 best = c;
             }
         }
@@ -356,7 +359,7 @@ public final class VillageBall {
         }
         trial.begin(now.scene);
         for (int k = 0; k < n; k++) {
-            trial.stepOnce(now.village, NO_BANK);
+            trial.scene.step(now.village, NO_BANK);
             row.put(i + k, trial.scene.place);
         }
         return n;
@@ -428,19 +431,6 @@ public final class VillageBall {
         return isIn(sheet, 0, SHEETS - 1) && isIn(lane, 0, LANES - 1);
     }
 
-    private int restsWithBank(int bank) {
-        trial.begin(now.scene);
-        trial.rollToRest(now.village, bank);
-        return trial.scene.place;
-    }
-
-    private int greatWithThingAt(int thing, int cell) {
-        trial.begin(now.scene);
-        trial.scene.putAt(thing, cell);
-        trial.rollToRest(now.village, NO_BANK);
-        return trial.scene.great;
-    }
-
     private boolean isMissedWithout(int thing, int set) {
         trial.begin(now.scene);
         for (int t = 0; t < MOST_THINGS; t++) {
@@ -456,7 +446,7 @@ public final class VillageBall {
         trial.begin(now.scene);
         trial.scene.letGo(g, fast);
         for (int k = 0; k < n; k++) {
-            trial.stepOnce(now.village, NO_BANK);
+            trial.scene.step(now.village, NO_BANK);
             if (row.items[i + k] != trial.scene.place) {
                 return false;
             }
@@ -610,23 +600,23 @@ public final class VillageBall {
         }
 
         void takeUp(int thing) {
-            if (takenCount >= 0 && takenCount < MOST_THINGS) {
-                putAt(thing, IN_BALL);
+            if (thing >= 0 && thing < MOST_THINGS && takenCount >= 0 && takenCount < MOST_THINGS) {
+                wheres[thing] = IN_BALL;
                 taken[takenCount] = thing;
                 takenCount++;
             }
         }
 
         void growBy(int by) {
-            great = Math.min(MOST_GREAT, great + by);
+            great = great + by < MOST_GREAT ? great + by : MOST_GREAT;
         }
 
         void shrinkBy(int by) {
-            great = Math.max(LEAST_GREAT, great - by);
+            great = great - by > LEAST_GREAT ? great - by : LEAST_GREAT;
         }
 
         void slowBy(int by) {
-            fast = Math.max(0, fast - by);
+            fast = fast > by ? fast - by : 0;
         }
 
         void meltADay(Village village) {
@@ -755,20 +745,14 @@ public final class VillageBall {
 
         void begin(Scene from) {
             scene.become(from);
-            made = 0;
-            fastest = scene.fast;
-        }
-
-        void stepOnce(Village village, int bank) {
-            scene.step(village, bank);
-            fastest = Math.max(fastest, scene.fast);
-            made++;
         }
 
         void rollToRest(Village village, int bank) {
+            fastest = scene.fast;
             // A step that does not end in rest goes on by a cell at least: there are no more steps.
-            while (made < MOST_CELLS && !scene.rests) {
-                stepOnce(village, bank);
+            for (made = 0; made < MOST_CELLS && !scene.rests; made++) {
+                scene.step(village, bank);
+                fastest = Math.max(fastest, scene.fast);
             }
         }
     }
@@ -796,15 +780,15 @@ public final class VillageBall {
             return place >= 0 && place < length && place < MOST_LETTERS ? letters[place] : END;
         }
 
-        char letterBehindBlanks() {
-            while (place < length && letterHere() == BLANK) {
+        void skipBlanks() {
+            while (place >= 0 && place < length && place < MOST_LETTERS && letters[place] == BLANK) {
                 place++;
             }
-            return letterHere();
         }
 
         boolean takes(char letter) {
-            if (letterBehindBlanks() != letter) {
+            skipBlanks();
+            if (letterHere() != letter) {
                 return false;
             }
             place++;
@@ -813,7 +797,8 @@ public final class VillageBall {
 
         /** The digit behind blanks, or NONE: then the place is that of the letter there. */
         int readDigit() {
-            char letter = letterBehindBlanks();
+            skipBlanks();
+            char letter = letterHere();
             if (!isDigit(letter)) {
                 return NONE;
             }
@@ -861,16 +846,19 @@ public final class VillageBall {
             if (tape.takes(';') && !readThings()) {
                 return false;
             }
-            return tape.letterBehindBlanks() == END;
+            tape.skipBlanks();
+            return tape.letterHere() == END;
         }
 
         boolean readCells() {
-            boolean more = true;
-            while (more && village.cells < MOST_CELLS) {
+            for (int c = 0; c < MOST_CELLS; c++) {
                 if (!readCell()) {
                     return false;
                 }
-                more = village.cells < MOST_CELLS && tape.takes(',');
+                boolean isLast = c + 1 == MOST_CELLS || !tape.takes(',');
+                if (isLast) {
+                    break;
+                }
             }
             return village.cells >= LEAST_CELLS;
         }
@@ -891,18 +879,21 @@ public final class VillageBall {
         }
 
         boolean readThings() {
-            boolean more = true;
-            while (more && village.things < MOST_THINGS) {
+            for (int t = 0; t < MOST_THINGS; t++) {
                 if (!readThing()) {
                     return false;
                 }
-                more = village.things < MOST_THINGS && tape.takes(',');
+                boolean isLast = t + 1 == MOST_THINGS || !tape.takes(',');
+                if (isLast) {
+                    break;
+                }
             }
             return true;
         }
 
         boolean readThing() {
-            int kind = KIND_LETTERS.indexOf(tape.letterBehindBlanks());
+            tape.skipBlanks();
+            int kind = KIND_LETTERS.indexOf(tape.letterHere());
             if (kind < 0) {
                 return false;
             }
