@@ -177,6 +177,10 @@ public final class ForetoldTest {
         x.go(9, 29);
         check.due("a warm one where it is leapt over", x.lay(0, 0), 1);
         check.due("how great", x.lay(0, 1), 9);
+        x = Check.ofText("00,00,00,00;w3@2");
+        x.go(9, 5);
+        check.due("it must lie at a cell there is", x.lay(0, 0), 0);
+        check.due("how great", x.lay(0, 1), 6);
         x = Check.ofText("30,30,30,30,30,30;g4@5,l2@1");
         x.go(3, 3);
         check.due("a grudge behind what makes it great enough", x.lay(0, 0), 1 + 1);
