@@ -447,7 +447,7 @@ public final class VillageBall {
         trial.scene.letGo(g, fast);
         for (int k = 0; k < n; k++) {
             trial.scene.step(now.village, NO_BANK);
-            if (row.items[i + k] != trial.scene.place) {
+            if (!row.holds(i + k, trial.scene.place)) {
                 return false;
             }
         }
@@ -700,13 +700,15 @@ public final class VillageBall {
         }
 
         void remember(Scene scene) {
-            scenes[next].become(scene);
-            next = next + 1 < MOST_KNOWN ? next + 1 : 0;
-            known = Math.min(MOST_KNOWN, known + 1);
+            if (next >= 0 && next < MOST_KNOWN) {
+                scenes[next].become(scene);
+                next = next + 1 < MOST_KNOWN ? next + 1 : 0;
+                known = Math.min(MOST_KNOWN, known + 1);
+            }
         }
 
         void bringBack(Scene scene) {
-            next = next > 0 ? next - 1 : MOST_KNOWN - 1;
+            next = next > 0 && next < MOST_KNOWN ? next - 1 : MOST_KNOWN - 1;
             known = Math.max(0, known - 1);
             scene.become(scenes[next]);
         }
@@ -948,6 +950,10 @@ public final class VillageBall {
             if (hasItems(i, 1)) {
                 items[i] = lowestBits(v);
             }
+        }
+
+        boolean holds(int i, long v) {
+            return hasItems(i, 1) && items[i] == v;
         }
 
         long lowestBits(long v) {

@@ -217,6 +217,13 @@ public final class BoundsPart2Test {
         dueLay("a warm one: those that it is past", past, 0, 0, 9);
     }
 
+    @Says(at = "==== 2", text = "LAY for a THING that LIES: the CELL at which it should LIE")
+    private static void lay_atNoOtherCellThanThereIs() {
+        // It comes to every cell: only above the top or at the bottom would the warm one be missed.
+        dueLay("a warm one", letGo("00,00,00,00;w3@2", 9, 5), 0, 0, 6);
+        dueLay("a warm one", letGo(Check.cells("00", 24) + ";w3@2", 9, 5), 0, 0, 6);
+    }
+
     @Says(at = "==== 2", text = "so that THE BALL is as GREAT as can be when it RESTS, of like ones the first; how GREAT.")
     private static void lay_atTheLastCell() {
         dueLay("it is great enough there", letGo("00,00,00,09;p9@0", 1, 5), 0, 3, 19);

@@ -39,6 +39,15 @@ public final class BoundsPart3Test {
         dueSeen("it does not go on from rest", x, 1, 19, 2, 0, NONE);
     }
 
+    @Says(at = "==== 3", text = "behind each of n STEPS (1 .. 8; where it RESTS it is on), LET GO now, GREAT by g")
+    private static void seen_whereItRestsItIsOn_thoughTheSlopeDrops() {
+        // The first thing stops it, the second makes it great enough for the first: a step more would go on.
+        VillageBall x = Check.ofText("90,90,90,90;p9@0,l9@0");
+        Villages.row(x, 0, 0, 0, 0, 0, 0, 0, 0, 1);
+        dueSeen("8 times at 0", x, 1, 0, 8, 1, 0);
+        dueSeen("it does not go on from there", x, 1, 7, 2, 0, NONE);
+    }
+
     @Says(at = "==== 3", text = "by how much it might be FAST (0 .. 99) so that it would be so: how many such numbers;"
         + " the least; none.")
     private static void seen_fastBy0To99() {
@@ -168,6 +177,23 @@ public final class BoundsPart3Test {
         Bounds.dueAll("in it again", Check.ofThing(x, 1), 1, 2, NONE, 1, 0);
         Bounds.due("undo", x.undo(), 1);
         Bounds.dueAll("it lies again", Check.ofThing(x, 1), 1, 2, 0, NONE, 0);
+    }
+
+    @Says(at = "==== 3", text = "THE BALL, SNOW, where THINGS are, the order, THE DRAW are as ahead of it, whatever was told since")
+    private static void undone_theOrderThoughAnotherOneCame() {
+        VillageBall x = Check.ofText("10,10,00,00;l1@1,l2@0,l3@2,l4@3");
+        x.go(1, 0);
+        x.steps(2);
+        Bounds.dueAll("1, then 0", new int[] {x.of(1, 3), x.of(0, 3)}, 0, 1);
+        x.go(1, 5);
+        x.steps(24);
+        Bounds.dueAll("2, then 3", new int[] {x.of(2, 3), x.of(3, 3)}, 0, 1);
+        while (x.count(8) > 3) {
+            x.undo();
+        }
+        Bounds.dueAll("1, then 0 again", new int[] {x.of(1, 3), x.of(0, 3)}, 0, 1);
+        Bounds.dueAll("the others lie", new int[] {x.of(2, 2), x.of(3, 2)}, 2, 3);
+        Bounds.dueAll("foretold, too", new int[] {x.order(0), x.order(1), x.order(2), x.order(3)}, 1, 0, 2, 3);
     }
 
     @Says(at = "==== 3", text = "a VILLAGE, a new THING leave nothing to be UNDONE")
@@ -440,6 +466,17 @@ public final class BoundsPart3Test {
         String text = Check.cells("12", 4);
         dueText(text + " ".repeat(130 - text.length()), 4);
         dueText(" ".repeat(130 - text.length()) + text, 4);
+    }
+
+    @Says(at = "==== 3", text = "blanks count for nothing, but end a number")
+    private static void blanks_behindTheLastThatMayBe() {
+        String cells = Check.cells("12", 24);
+        String things = Check.cells("p1@0", 8);
+        dueText(cells + "   ", 24);
+        dueFault(cells + "   ,12", 74);
+        dueText(cells + "   ;" + things + "   ", 24);
+        dueFault(cells + ";" + things + "   ,p1@0", 114);
+        dueFault(cells + ";" + things + "   x", 114);
     }
 
     @Says(at = "==== 3", text = "blanks count for nothing, but end a number")

@@ -281,4 +281,40 @@ public final class BoundsPromises16To23Test {
         Bounds.due("one was known then", x.undo(), 0);
         Bounds.due("no snow", x.count(7), 0);
     }
+
+    @Says(at = "Promise 23", text = "All is as it was then: 1.")
+    private static void promise23_whatMayBeUndoneIsOfThen_thoughMoreCameSince() {
+        for (int since = 1; since <= 9; since++) {
+            VillageBall x = Villages.level(4);
+            for (int k = 1; k <= 9; k++) {
+                x.go(k, k);
+            }
+            x.image();
+            for (int k = 0; k < since; k++) {
+                x.snow(1);
+            }
+            x.restore();
+            for (int k = 8; k >= 1; k--) {
+                Bounds.due("undo", x.undo(), k - 1);
+                int[] got = {x.count(3), x.count(4), x.count(7)};
+                Bounds.dueAll("great, fast, snow", got, k, k, 0);
+            }
+            Bounds.due("none", x.undo(), NONE);
+            x.restore();
+            Bounds.due("the image is as it was", x.count(8), 8);
+        }
+    }
+
+    @Says(at = "Promise 23", text = "All is as it was then: 1.")
+    private static void promise23_theOrderIsOfThen() {
+        VillageBall x = Check.ofText("10,10,00,00;l1@1,l2@0,l3@2,l4@3");
+        x.go(1, 0);
+        x.steps(2);
+        x.image();
+        x.go(1, 5);
+        x.steps(24);
+        x.restore();
+        int[] places = {x.of(0, 3), x.of(1, 3), x.of(2, 3), x.of(3, 3)};
+        Bounds.dueAll("1, then 0", places, 1, 0, NONE, NONE);
+    }
 }

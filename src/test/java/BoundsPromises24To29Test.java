@@ -198,6 +198,22 @@ public final class BoundsPromises24To29Test {
         }
     }
 
+    @Says(at = "Promise 25", text = "(where it RESTS it is on)")
+    private static void promise25_whereItRestsItIsOn_thoughTheSlopeDrops() {
+        VillageBall first = Check.ofText("99,99,99,99");
+        Villages.row(first, 3, 3, 3, 3);
+        first.film(4, 0, 2, 0);
+        // The first thing stops it, the second makes it great enough for the first: a step more would go on.
+        VillageBall stopped = Check.ofText("00,50,90,90;p9@1,l9@1");
+        stopped.go(1, 4);
+        Villages.row(stopped, 3, 3, 3, 3);
+        stopped.film(4, 0, 2, 0);
+        Check.read(first, "00,00,00,00");
+        Check.read(stopped, "00,00,00,00");
+        Bounds.dueAll("at rest at first", Villages.items(first, 0, 2, 4), 0, 0, 0, 0);
+        Bounds.dueAll("stopped at 1", Villages.items(stopped, 0, 2, 4), 1, 1, 1, 1);
+    }
+
     @Says(at = "Promise 25", text = "BAD; NULL; CAST; INDEX.")
     private static void promise25_BAD_noSuchSheetLane() {
         Bounds.bad("sheet", ROLLING, (x, s) -> x.film(1, s, 2, 0), -1, 4, MOST, LEAST);

@@ -96,6 +96,10 @@ public final class RandomRunsTest {
 
     private boolean readsVillage() {
         String text = text();
+        // What an object answers behind its 512th call is free: a village that is not read by then is left out.
+        if (made + text.length() + 1 > CALLS) {
+            return true;
+        }
         for (int k = 0; k < text.length(); k++) {
             char c = text.charAt(k);
             if (!same("type(" + (int) c + ")", x.type(c), model.type(c))) {
@@ -135,7 +139,7 @@ public final class RandomRunsTest {
             case 4:
                 a = in(32, 126, odd);
                 return same("type(" + a + ")", x.type(a), model.type(a))
-                    && same("village()", x.village(), model.village());
+                    && (made == CALLS || same("village()", x.village(), model.village()));
             case 5:
                 a = in(0, 8, odd);
                 return same("count(" + a + ")", x.count(a), model.count(a));
