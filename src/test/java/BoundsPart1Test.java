@@ -12,7 +12,7 @@ public final class BoundsPart1Test {
     // ---- the slope
 
     @Says(at = "==== 1", text = "THE SLOPE has CELLS 0 (the top) and on, 4 to 24 (12 at first)")
-    private static void cells_12AtFirst() {
+    private static void promise01_cells_12AtFirst() {
         VillageBall x = new VillageBall();
         Bounds.due("how many", x.count(0), 12);
         Bounds.due("the top", x.at(0, 0), 3);
@@ -22,7 +22,7 @@ public final class BoundsPart1Test {
     }
 
     @Says(at = "==== 1", text = "THE SLOPE has CELLS 0 (the top) and on, 4 to 24 (12 at first)")
-    private static void cells_4AreTheFewest() {
+    private static void promise07_cells_4AreTheFewest() {
         VillageBall x = new VillageBall();
         Bounds.due("3", Check.read(x, Check.cells("12", 3)), -20 - 8);
         Bounds.due("it is as it was", x.count(0), 12);
@@ -33,7 +33,7 @@ public final class BoundsPart1Test {
     }
 
     @Says(at = "==== 1", text = "THE SLOPE has CELLS 0 (the top) and on, 4 to 24 (12 at first)")
-    private static void cells_24AreTheMost() {
+    private static void promise07_cells_24AreTheMost() {
         VillageBall x = new VillageBall();
         Bounds.due("25", Check.read(x, Check.cells("12", 25)), -20 - 71);
         Bounds.due("it is as it was", x.count(0), 12);
@@ -44,7 +44,7 @@ public final class BoundsPart1Test {
     }
 
     @Says(at = "==== 1", text = "each of a DROP (0 .. 9; 3 at first)")
-    private static void drop_0To9_3AtFirst() {
+    private static void promise02_drop_0To9_3AtFirst() {
         VillageBall x = new VillageBall();
         for (int c = 0; c < 12; c++) {
             Bounds.due("at first", x.at(c, 0), 3);
@@ -56,7 +56,7 @@ public final class BoundsPart1Test {
     }
 
     @Says(at = "==== 1", text = "with SNOW (0 .. 9; 2 at first)")
-    private static void snow_0To9_2AtFirst() {
+    private static void promise02_snow_0To9_2AtFirst() {
         VillageBall x = new VillageBall();
         for (int c = 0; c < 12; c++) {
             Bounds.due("at first", x.at(c, 1), 2);
@@ -79,7 +79,7 @@ public final class BoundsPart1Test {
     }
 
     @Says(at = "==== 1", text = "at the BOTTOM (told as how many CELLS there are)")
-    private static void bottom_isHowManyCellsThereAre() {
+    private static void promise10_bottom_isHowManyCellsThereAre() {
         dueBottom(4);
         dueBottom(5);
         dueBottom(23);
@@ -87,7 +87,7 @@ public final class BoundsPart1Test {
     }
 
     @Says(at = "==== 1", text = "is GREAT by 1 .. 999")
-    private static void great_neverBelow1() {
+    private static void promise10_great_neverBelow1() {
         VillageBall warm = Villages.stepped("w9@0", 1, 5);
         Bounds.due("1 by a warm thing of 9", warm.count(3), 1);
         VillageBall days = Villages.stepped("", 1, 0);
@@ -97,7 +97,7 @@ public final class BoundsPart1Test {
 
     /** 999 can't be come to: 99 at the start, 9 by each of 24 cells, 18 by each of 8 things make 459. */
     @Says(at = "==== 1", text = "is GREAT by 1 .. 999")
-    private static void great_nothingBelow999CutsIt() {
+    private static void promise10_great_nothingBelow999CutsIt() {
         VillageBall x = Check.ofText(Check.cells("99", 8) + ";" + Check.cells("g9@6", 8));
         x.go(99, 19);
         // Fast by 19, 18, 16, 13, 9, 4, 0; great by 9 more at each of 7 cells, by 18 for each thing.
@@ -107,7 +107,7 @@ public final class BoundsPart1Test {
     }
 
     @Says(at = "==== 1", text = "FAST by 0 .. 99")
-    private static void fast_0To99() {
+    private static void promise10_fast_0To99() {
         VillageBall x = Check.ofText("90,00,00,00");
         x.go(1, 99);
         x.steps(1);
@@ -117,7 +117,7 @@ public final class BoundsPart1Test {
     }
 
     @Says(at = "==== 1", text = "At first it RESTS at CELL 0, GREAT by 1, FAST by 0.")
-    private static void ball_atFirst() {
+    private static void promise01_ball_atFirst() {
         Bounds.dueAll("count", Check.counts(new VillageBall()), 12, 0, 0, 1, 0, 1, 0, 24, 0);
         Bounds.asked("it makes no step", NEW, x -> x.steps(1), NOT);
     }
@@ -125,7 +125,7 @@ public final class BoundsPart1Test {
     // ---- things
 
     @Says(at = "==== 1", text = "THINGS 0 .. 7, as they come")
-    private static void things_0To7() {
+    private static void promise04_things_0To7() {
         VillageBall x = new VillageBall();
         Bounds.due("no thing 0", x.of(0, 0), BAD);
         for (int t = 0; t < 8; t++) {
@@ -138,7 +138,7 @@ public final class BoundsPart1Test {
     }
 
     @Says(at = "==== 1", text = "HEAVY by 0 .. 9")
-    private static void heavy_0To9() {
+    private static void promise04_heavy_0To9() {
         VillageBall x = new VillageBall();
         Bounds.due("0", x.thing(0, 0, 0), 0);
         Bounds.due("9", x.thing(0, 9, 0), 1);
@@ -148,7 +148,7 @@ public final class BoundsPart1Test {
     }
 
     @Says(at = "==== 1", text = "or are BACK (for good)")
-    private static void back_isForGood() {
+    private static void promise09_back_isForGood() {
         VillageBall x = Villages.stepped("l1@0", 1, 5);
         x.go(1, 5);
         Bounds.dueAll("back", Check.ofThing(x, 0), 1, 1, NONE, NONE, 1);
@@ -164,7 +164,7 @@ public final class BoundsPart1Test {
     // ---- let go
 
     @Says(at = "==== 1", text = "It is LET GO from CELL 0, GREAT by g, FAST by f; THINGS that are IN it are BACK then.")
-    private static void letGo_noneIsInIt() {
+    private static void promise09_letGo_noneIsInIt() {
         VillageBall x = Check.ofText("00,00,00,00;l1@0,l1@1");
         Bounds.due("none is back", x.go(1, 0), 0);
         Bounds.due("0 lies on", x.of(0, 2), 0);
@@ -173,7 +173,7 @@ public final class BoundsPart1Test {
     }
 
     @Says(at = "==== 1", text = "It is LET GO from CELL 0, GREAT by g, FAST by f; THINGS that are IN it are BACK then.")
-    private static void letGo_allEightAreInIt() {
+    private static void promise09_letGo_allEightAreInIt() {
         VillageBall x = Villages.stepped(Check.cells("l0@0", 8), 1, 19);
         Bounds.due("all are in it", x.count(6), 255);
         Bounds.due("all are back", x.go(99, 99), 8);
@@ -184,7 +184,7 @@ public final class BoundsPart1Test {
     }
 
     @Says(at = "==== 1", text = "It is LET GO from CELL 0, GREAT by g, FAST by f; THINGS that are IN it are BACK then.")
-    private static void letGo_fromTheBottom() {
+    private static void promise09_letGo_fromTheBottom() {
         VillageBall x = Villages.stepped("", 1, 99);
         x.steps(24);
         Bounds.due("at the bottom", x.count(2), 10);
@@ -195,7 +195,7 @@ public final class BoundsPart1Test {
     // ---- a step
 
     @Says(at = "==== 1", text = "A STEP, if it does not REST")
-    private static void step_noneWhileItRests() {
+    private static void promise10_step_noneWhileItRests() {
         VillageBall x = Villages.stepped("l1@0", 1, 0);
         Bounds.due("it rests at 0", x.count(5), 1);
         x.cell(0, 0, 9);
@@ -214,7 +214,7 @@ public final class BoundsPart1Test {
     }
 
     @Says(at = "==== 1", text = "it is FASTER by DROP, less by a tenth of how GREAT it is (0 .. 99 then)")
-    private static void faster_0AtLeast() {
+    private static void promise10_faster_0AtLeast() {
         Bounds.due("0 and 0", fastBehind(0, 1, 0), 0);
         Bounds.due("9 less 9", fastBehind(9, 99, 0), 0);
         Bounds.due("8 less 9", fastBehind(8, 99, 0), 0);
@@ -225,7 +225,7 @@ public final class BoundsPart1Test {
     }
 
     @Says(at = "==== 1", text = "it is FASTER by DROP, less by a tenth of how GREAT it is (0 .. 99 then)")
-    private static void faster_99AtMost() {
+    private static void promise10_faster_99AtMost() {
         Bounds.due("90 and 9", fastBehind(9, 1, 90), 99);
         Bounds.due("91 and 9", fastBehind(9, 1, 91), 99);
         Bounds.due("99 and 9", fastBehind(9, 1, 99), 99);
@@ -235,7 +235,7 @@ public final class BoundsPart1Test {
     }
 
     @Says(at = "==== 1", text = "it is GREATER by the SNOW there (999 at most), which is gone")
-    private static void snowIsTaken_noneOrNine() {
+    private static void promise10_snowIsTaken_noneOrNine() {
         VillageBall x = Check.ofText("30,39,00,00");
         x.go(1, 0);
         x.steps(1);
@@ -249,7 +249,7 @@ public final class BoundsPart1Test {
 
     /** The bound 999 can't be come to: that nothing less cuts it is all that can be seen. */
     @Says(at = "==== 1", text = "it is GREATER by the SNOW there (999 at most), which is gone")
-    private static void snowIsTaken_above99() {
+    private static void promise10_snowIsTaken_above99() {
         VillageBall x = Check.ofText("99,99,99,99");
         x.go(99, 9);
         x.steps(3);
@@ -258,7 +258,7 @@ public final class BoundsPart1Test {
     }
 
     @Says(at = "==== 1", text = "then it meets THINGS that LIE there, rising.")
-    private static void meets_allEightRising() {
+    private static void promise10_meets_allEightRising() {
         VillageBall x = Villages.stepped("p8@0,p7@0,p6@0,p5@0,l1@0,l1@0,l1@0,l1@0", 4, 99);
         Bounds.due("the first four are too heavy yet", x.count(6), 0xf0);
         Bounds.due("slowed by each of them", x.count(4), 99 - 26);
@@ -269,7 +269,7 @@ public final class BoundsPart1Test {
     }
 
     @Says(at = "==== 1", text = "then it meets THINGS that LIE there, rising.")
-    private static void meets_noneElsewhere() {
+    private static void promise10_meets_noneElsewhere() {
         VillageBall x = Villages.stepped("l1@1,l1@2,l1@9", 1, 20);
         Bounds.due("it is at 2", x.count(2), 2);
         Bounds.due("it has met none", x.count(6), 0);
@@ -279,7 +279,7 @@ public final class BoundsPart1Test {
     }
 
     @Says(at = "==== 1", text = "Is it FAST by 0 then, it RESTS there; else it goes 1 CELL further on")
-    private static void rests_fastBy0_notBy1() {
+    private static void promise10_rests_fastBy0_notBy1() {
         VillageBall zero = Villages.stepped("", 1, 0);
         Bounds.due("0: it rests", zero.count(5), 1);
         Bounds.due("0: there", zero.count(2), 0);
@@ -295,7 +295,7 @@ public final class BoundsPart1Test {
     }
 
     @Says(at = "==== 1", text = "and 1 more for each 20 by which it is FAST")
-    private static void leaps_oneMoreForEach20() {
+    private static void promise10_leaps_oneMoreForEach20() {
         int[][] dues = {{1, 1}, {19, 1}, {20, 2}, {39, 2}, {40, 3}, {59, 3}, {60, 4}, {79, 4}, {80, 5}, {99, 5}};
         for (int[] d : dues) {
             Bounds.due("fast by " + d[0], Villages.stepped("", 1, d[0]).count(2), d[1]);
@@ -303,7 +303,7 @@ public final class BoundsPart1Test {
     }
 
     @Says(at = "==== 1", text = "beyond the last CELL it is at the BOTTOM and RESTS.")
-    private static void beyondTheLast_onTheLastItIsNot() {
+    private static void promise10_beyondTheLast_onTheLastItIsNot() {
         VillageBall x = Villages.level(4);
         x.go(1, 59);
         x.steps(1);
@@ -314,7 +314,7 @@ public final class BoundsPart1Test {
     }
 
     @Says(at = "==== 1", text = "beyond the last CELL it is at the BOTTOM and RESTS.")
-    private static void beyondTheLast_howeverFar() {
+    private static void promise10_beyondTheLast_howeverFar() {
         for (int fast : new int[] {60, 79, 80, 99}) {
             VillageBall x = Villages.level(4);
             x.go(1, fast);
@@ -334,7 +334,7 @@ public final class BoundsPart1Test {
     }
 
     @Says(at = "==== 1", text = "0 PLAIN: is taken up, if THE BALL is GREAT by as much as it is HEAVY, or more")
-    private static void plain_takenFromAsMuchOn() {
+    private static void promise10_plain_takenFromAsMuchOn() {
         dueMet("p9", 8, 14, 8, 5, 0);
         dueMet("p9", 9, 14, 18, 14, 1);
         dueMet("p9", 10, 14, 19, 13, 1);
@@ -345,14 +345,14 @@ public final class BoundsPart1Test {
 
     @Says(at = "==== 1", text = "0 PLAIN: is taken up, if THE BALL is GREAT by as much as it is HEAVY, or more: GREATER"
         + " by that (999 at most)")
-    private static void plain_greaterByThat() {
+    private static void promise10_plain_greaterByThat() {
         dueMet("p0", 99, 14, 99, 5, 1);
         dueMet("p9", 99, 14, 108, 5, 1);
         dueMet("p9", 9, 99, 18, 99, 1);
     }
 
     @Says(at = "==== 1", text = "else THE BALL is less FAST by that (0 at least), it LIES on")
-    private static void plain_tooHeavy_fast0AtLeast() {
+    private static void promise10_plain_tooHeavy_fast0AtLeast() {
         dueMet("p9", 1, 10, 1, 1, 0);
         dueMet("p9", 1, 9, 1, 0, 0);
         dueMet("p9", 1, 8, 1, 0, 0);
@@ -361,7 +361,7 @@ public final class BoundsPart1Test {
     }
 
     @Says(at = "==== 1", text = "1 LIGHT: is taken up in any case.")
-    private static void light_inAnyCase() {
+    private static void promise10_light_inAnyCase() {
         dueMet("l9", 1, 0, 10, 0, 1);
         dueMet("l9", 1, 99, 10, 99, 1);
         dueMet("l0", 1, 15, 1, 15, 1);
@@ -369,7 +369,7 @@ public final class BoundsPart1Test {
     }
 
     @Says(at = "==== 1", text = "as PLAIN, but if THE BALL is FAST by 15 or more, nothing comes of it")
-    private static void slick_from15OnNothingComesOfIt() {
+    private static void promise10_slick_from15OnNothingComesOfIt() {
         dueMet("s5", 5, 14, 10, 14, 1);
         dueMet("s5", 5, 15, 5, 15, 0);
         dueMet("s5", 5, 99, 5, 99, 0);
@@ -381,7 +381,7 @@ public final class BoundsPart1Test {
     }
 
     @Says(at = "==== 1", text = "as PLAIN, but if THE BALL is FAST by 15 or more, nothing comes of it")
-    private static void slick_howFastItIsWhenItMeetsIt() {
+    private static void promise10_slick_howFastItIsWhenItMeetsIt() {
         VillageBall slowed = Villages.stepped("p2@0,s1@0", 1, 16);
         Bounds.due("slowed to 14 by another", slowed.count(6), 2);
         VillageBall notEnough = Villages.stepped("p2@0,s1@0", 1, 17);
@@ -393,7 +393,7 @@ public final class BoundsPart1Test {
     }
 
     @Says(at = "==== 1", text = "is taken up in any case, but THE BALL is less GREAT by that (1 at least)")
-    private static void warm_great1AtLeast() {
+    private static void promise10_warm_great1AtLeast() {
         dueMet("w9", 11, 14, 2, 13, 1);
         dueMet("w9", 10, 14, 1, 13, 1);
         dueMet("w9", 9, 14, 1, 14, 1);
@@ -404,7 +404,7 @@ public final class BoundsPart1Test {
     }
 
     @Says(at = "==== 1", text = "4 GRUDGE (below SLICK): as SLICK; taken up, it makes THE BALL GREATER once more by as much.")
-    private static void grudge_asSlickAndOnceMore() {
+    private static void promise10_grudge_asSlickAndOnceMore() {
         dueMet("g5", 5, 14, 15, 14, 1);
         dueMet("g5", 5, 15, 5, 15, 0);
         dueMet("g5", 4, 14, 4, 9, 0);
@@ -417,7 +417,7 @@ public final class BoundsPart1Test {
     // ---- a day, snow
 
     @Says(at = "==== 1", text = "MELT by a DAY: if THE BALL RESTS")
-    private static void day_onlyAtRest() {
+    private static void promise11_day_onlyAtRest() {
         Bounds.asked("while it rolls", Villages::rolling, x -> x.melt(1), NOT);
         VillageBall slow = Villages.level(4);
         slow.go(9, 0);
@@ -431,7 +431,7 @@ public final class BoundsPart1Test {
     }
 
     @Says(at = "==== 1", text = "THE BALL is less GREAT by as much as it is HEAVY and 1 (1 at least);")
-    private static void day_lessByAThing_1AtLeast() {
+    private static void promise11_day_lessByAThing_1AtLeast() {
         int[][] dues = {{16, 6}, {11, 1}, {10, 1}, {2, 1}};
         for (int[] d : dues) {
             // A warm thing of 9 is taken up first of all, so that the ball is less great than its things.
@@ -445,14 +445,14 @@ public final class BoundsPart1Test {
     }
 
     @Says(at = "==== 1", text = "THE BALL is less GREAT by as much as it is HEAVY and 1 (1 at least);")
-    private static void day_lessByAThingOf0() {
+    private static void promise11_day_lessByAThingOf0() {
         VillageBall x = Villages.stepped("l0@0", 50, 0);
         Bounds.due("1 less", x.melt(1), 49);
         Bounds.due("a tenth less, and 1", x.melt(1), 44);
     }
 
     @Says(at = "==== 1", text = "the THING that was taken up last is BACK")
-    private static void day_lastFirst_allEight() {
+    private static void promise11_day_lastFirst_allEight() {
         VillageBall x = Villages.stepped(Check.cells("l1@0", 8), 1, 0);
         for (int day = 0; day < 8; day++) {
             Bounds.due("in it", x.count(6), 255 >> day);
@@ -464,7 +464,7 @@ public final class BoundsPart1Test {
     }
 
     @Says(at = "==== 1", text = "with none IN it a tenth less GREAT, and 1 (1 at least)")
-    private static void day_noneInIt_1AtLeast() {
+    private static void promise11_day_noneInIt_1AtLeast() {
         int[][] dues = {{99, 89}, {20, 17}, {19, 17}, {10, 8}, {9, 8}, {2, 1}, {1, 1}};
         for (int[] d : dues) {
             Bounds.due("great by " + d[0], Villages.stepped("", d[0], 0).melt(1), d[1]);
@@ -472,7 +472,7 @@ public final class BoundsPart1Test {
     }
 
     @Says(at = "==== 1", text = "SNOW FALLS by n: each CELL has n more (9 at most).")
-    private static void snowFalls_9AtMost() {
+    private static void promise12_snowFalls_9AtMost() {
         VillageBall x = Check.ofText("00,01,08,09");
         Bounds.due("by 1", x.snow(1), 21);
         Bounds.dueAll("each", Check.snows(x), 1, 2, 9, 9);

@@ -12,7 +12,7 @@ public final class BoundsPart2Test {
     // ---- foretold
 
     @Says(at = "==== 2", text = "FORETOLD from now, STEP by STEP till THE BALL RESTS (nothing is changed)")
-    private static void foretold_nothingIsChanged() {
+    private static void promise16_foretold_nothingIsChanged() {
         for (int what = 0; what <= 4; what++) {
             int w = what;
             Bounds.asked("ahead " + w, ROLLING, x -> x.ahead(w), Villages.rolling().ahead(w));
@@ -25,7 +25,7 @@ public final class BoundsPart2Test {
     }
 
     @Says(at = "==== 2", text = "FORETOLD from now, STEP by STEP till THE BALL RESTS (nothing is changed)")
-    private static void foretold_atRestAllIsAsItIs() {
+    private static void promise16_foretold_atRestAllIsAsItIs() {
         Bounds.dueAll("at first", Check.ahead(new VillageBall()), 0, 1, 0, 0, 0);
         VillageBall stopped = Villages.stepped("l2@0", 3, 0);
         stopped.cell(0, 0, 9);
@@ -37,7 +37,7 @@ public final class BoundsPart2Test {
     }
 
     @Says(at = "==== 2", text = "FORETOLD from now, STEP by STEP till THE BALL RESTS (nothing is changed)")
-    private static void foretold_oneStep_24Steps() {
+    private static void promise16_foretold_oneStep_24Steps() {
         VillageBall one = Villages.level(4);
         one.go(1, 0);
         Bounds.dueAll("a step in which it rests", Check.ahead(one), 0, 1, 0, 1, 0);
@@ -47,7 +47,7 @@ public final class BoundsPart2Test {
     }
 
     @Says(at = "==== 2", text = "which THINGS are IN it (a set)")
-    private static void foretold_thingsInIt_noneOrAll() {
+    private static void promise16_foretold_thingsInIt_noneOrAll() {
         VillageBall x = Check.ofText("10,00,00,00;" + Check.cells("l0@3", 8));
         Bounds.due("none", x.ahead(2), 0);
         x.go(1, 0);
@@ -55,7 +55,7 @@ public final class BoundsPart2Test {
     }
 
     @Says(at = "==== 2", text = "how FAST it was at most (behind a STEP; as it is now, too)")
-    private static void fastAtMost_behindAStepOrNow() {
+    private static void promise16_fastAtMost_behindAStepOrNow() {
         VillageBall now = Check.ofText("90,00,00,00;p9@0,p9@0");
         now.go(1, 30);
         Bounds.due("39 within the step does not count, 30 now does", now.ahead(4), 30);
@@ -72,7 +72,7 @@ public final class BoundsPart2Test {
     }
 
     @Says(at = "==== 2", text = "in the order in which they were taken up (0: the first); none.")
-    private static void order_first_last_none() {
+    private static void promise17_order_first_last_none() {
         VillageBall x = Check.ofText("10,00,00,00;l1@3,l1@2,l1@1,l1@0");
         Bounds.due("none at rest", x.order(0), NONE);
         x.go(1, 0);
@@ -99,7 +99,7 @@ public final class BoundsPart2Test {
 
     @Says(at = "==== 2", text = "the least by which it would have to be more FAST now (0 .. 99, not above 99 in all)"
         + " so that it comes to the BOTTOM; none.")
-    private static void push_99AreWanted() {
+    private static void promise18_push_99AreWanted() {
         Bounds.due("from 0", hard(5, 0).push(), 99);
         Bounds.due("with 99 it comes to the bottom", hard(5, 99).ahead(0), 14);
         Bounds.due("with 98 it does not", hard(5, 98).ahead(0), 13);
@@ -107,7 +107,7 @@ public final class BoundsPart2Test {
 
     @Says(at = "==== 2", text = "the least by which it would have to be more FAST now (0 .. 99, not above 99 in all)"
         + " so that it comes to the BOTTOM; none.")
-    private static void push_notAbove99InAll() {
+    private static void promise18_push_notAbove99InAll() {
         Bounds.due("from 1", hard(5, 1).push(), 98);
         Bounds.due("from 98", hard(5, 98).push(), 1);
         Bounds.due("from 99", hard(5, 99).push(), 0);
@@ -118,7 +118,7 @@ public final class BoundsPart2Test {
 
     @Says(at = "==== 2", text = "the least by which it would have to be more FAST now (0 .. 99, not above 99 in all)"
         + " so that it comes to the BOTTOM; none.")
-    private static void push_0IfItComesThereAnyway() {
+    private static void promise18_push_0IfItComesThereAnyway() {
         VillageBall x = Villages.level(4);
         x.go(1, 1);
         Bounds.due("by itself", x.push(), 0);
@@ -132,7 +132,7 @@ public final class BoundsPart2Test {
 
     @Says(at = "==== 2", text = "the least by which it would have to be more FAST now (0 .. 99, not above 99 in all)"
         + " so that it comes to the BOTTOM; none.")
-    private static void push_theLeastThoughMoreMayBeTooMuch() {
+    private static void promise18_push_theLeastThoughMoreMayBeTooMuch() {
         // Fast by 5 .. 19 it takes up the light one, then the others; by 20 .. 27 it leaps over it and is stopped.
         String text = "00,00,00,00;l9@1,p9@2,p9@2,p9@2";
         int[][] dues = {{0, 5}, {4, 1}, {5, 0}, {19, 0}, {20, 8}, {27, 1}, {28, 0}};
@@ -156,7 +156,7 @@ public final class BoundsPart2Test {
     }
 
     @Says(at = "==== 2", text = "if it has a BANK (DROP 0 there, THE BALL is less FAST by 20 behind the DROP, 0 at least)")
-    private static void bank_drop0There_lessBy20() {
+    private static void promise19_bank_drop0There_lessBy20() {
         dueBank("20 less 20", letGo("90,90,90,90", 1, 20), 0, 0);
         dueBank("21 less 20", letGo("90,90,90,90", 1, 21), 0, 4);
         dueBank("29, less a tenth of 99, less 20", letGo("90,90,90,90", 99, 29), 0, 0);
@@ -164,14 +164,14 @@ public final class BoundsPart2Test {
     }
 
     @Says(at = "==== 2", text = "if it has a BANK (DROP 0 there, THE BALL is less FAST by 20 behind the DROP, 0 at least)")
-    private static void bank_0AtLeast() {
+    private static void promise19_bank_0AtLeast() {
         dueBank("19 less 20", letGo("90,90,90,90", 1, 19), 0, 0);
         dueBank("0 less 20", letGo("90,90,90,90", 1, 0), 0, 0);
         dueBank("0, less a tenth of 99, less 20", letGo("90,90,90,90", 99, 0), 0, 0);
     }
 
     @Says(at = "==== 2", text = "THE BALL RESTS least far down, of like ones the first; where it RESTS then.")
-    private static void bank_ofLikeOnesTheFirst() {
+    private static void promise19_bank_ofLikeOnesTheFirst() {
         dueBank("no bank stops it", letGo("90,90,90,90", 1, 99), 0, 4);
         // A bank at 0 lets it meet the thing with 5; a bank at 2, to which it leaps with 25, does so too.
         dueBank("two stop it alike", letGo(Check.cells("00", 7) + ";p5@2", 1, 25), 0, 2);
@@ -184,14 +184,14 @@ public final class BoundsPart2Test {
     }
 
     @Says(at = "==== 2", text = "THE BALL RESTS least far down, of like ones the first; where it RESTS then.")
-    private static void bank_atTheLastCell() {
+    private static void promise19_bank_atTheLastCell() {
         VillageBall x = letGo("00,00,00,00", 1, 19);
         x.steps(3);
         dueBank("it is at the last", x, 3, 3);
     }
 
     @Says(at = "==== 2", text = "THE BALL RESTS least far down, of like ones the first; where it RESTS then.")
-    private static void bank_atRest() {
+    private static void promise19_bank_atRest() {
         dueBank("at first", new VillageBall(), 0, 0);
         VillageBall stopped = letGo("90,00,00,00;p9@2", 1, 0);
         stopped.steps(24);
@@ -208,7 +208,7 @@ public final class BoundsPart2Test {
     }
 
     @Says(at = "==== 2", text = "so that THE BALL is as GREAT as can be when it RESTS, of like ones the first; how GREAT.")
-    private static void lay_ofLikeOnesTheFirst() {
+    private static void promise20_lay_ofLikeOnesTheFirst() {
         dueLay("at rest all are alike", Check.ofText("00,00,00,00;l9@3"), 0, 0, 1);
         dueLay("all cells that it comes to", letGo("00,00,00,00;l5@3", 1, 1), 0, 0, 6);
         dueLay("a warm one: those that it leaps over", letGo(Check.cells("00", 7) + ";w5@0", 9, 20), 0, 1, 9);
@@ -218,20 +218,20 @@ public final class BoundsPart2Test {
     }
 
     @Says(at = "==== 2", text = "LAY for a THING that LIES: the CELL at which it should LIE")
-    private static void lay_atNoOtherCellThanThereIs() {
+    private static void promise20_lay_atNoOtherCellThanThereIs() {
         // It comes to every cell: only above the top or at the bottom would the warm one be missed.
         dueLay("a warm one", letGo("00,00,00,00;w3@2", 9, 5), 0, 0, 6);
         dueLay("a warm one", letGo(Check.cells("00", 24) + ";w3@2", 9, 5), 0, 0, 6);
     }
 
     @Says(at = "==== 2", text = "so that THE BALL is as GREAT as can be when it RESTS, of like ones the first; how GREAT.")
-    private static void lay_atTheLastCell() {
+    private static void promise20_lay_atTheLastCell() {
         dueLay("it is great enough there", letGo("00,00,00,09;p9@0", 1, 5), 0, 3, 19);
         dueLay("it lies there", letGo("00,00,00,09;p9@3", 1, 5), 0, 3, 19);
     }
 
     @Says(at = "==== 2", text = "so that THE BALL is as GREAT as can be when it RESTS, of like ones the first; how GREAT.")
-    private static void lay_onlyTheLastCellIsStillAheadOfIt() {
+    private static void promise20_lay_onlyTheLastCellIsStillAheadOfIt() {
         VillageBall x = letGo("00,00,00,00;l5@0,l1@3", 1, 1);
         x.steps(3);
         // Anywhere else the ball is past it.
@@ -246,7 +246,7 @@ public final class BoundsPart2Test {
 
     @Says(at = "==== 2", text = "the fewest other THINGS that LIE, taken away now, so that it is not IN THE BALL when that"
         + " RESTS, of like ones the least set: how many; which; none.")
-    private static void spare_0ThingsOfAnEmptySet() {
+    private static void promise21_spare_0ThingsOfAnEmptySet() {
         dueSpare("at rest none is taken up", Check.ofText("00,00,00,00;l1@0"), 0, 0, 0);
         dueSpare("too heavy", letGo("00,00,00,00;p9@0", 1, 99), 0, 0, 0);
         VillageBall back = Villages.stepped("l1@0", 1, 1);
@@ -256,14 +256,14 @@ public final class BoundsPart2Test {
 
     @Says(at = "==== 2", text = "the fewest other THINGS that LIE, taken away now, so that it is not IN THE BALL when that"
         + " RESTS, of like ones the least set: how many; which; none.")
-    private static void spare_all7Others() {
+    private static void promise21_spare_all7Others() {
         dueSpare("of the last", letGo("00,00,00,00;" + Check.cells("l1@0", 7) + ",p2@1", 1, 9), 7, 7, 127);
         dueSpare("of the first", letGo("00,00,00,00;p2@1," + Check.cells("l1@0", 7), 1, 9), 0, 7, 254);
     }
 
     @Says(at = "==== 2", text = "the fewest other THINGS that LIE, taken away now, so that it is not IN THE BALL when that"
         + " RESTS, of like ones the least set: how many; which; none.")
-    private static void spare_ofLikeOnesTheLeastSet() {
+    private static void promise21_spare_ofLikeOnesTheLeastSet() {
         dueSpare("one of two", letGo("00,00,00,00;l2@0,l2@0,p5@1", 1, 9), 2, 1, 1);
         dueSpare("two of three", letGo("00,00,00,00;p4@1,l2@0,l2@0,l2@0", 1, 9), 0, 2, 6);
         dueSpare("one of a greater set, not two of a less", letGo("00,00,00,00;l1@0,l1@0,l2@0,p4@1", 1, 9), 3, 1, 4);
@@ -271,7 +271,7 @@ public final class BoundsPart2Test {
 
     @Says(at = "==== 2", text = "the fewest other THINGS that LIE, taken away now, so that it is not IN THE BALL when that"
         + " RESTS, of like ones the least set: how many; which; none.")
-    private static void spare_none() {
+    private static void promise21_spare_none() {
         dueSpare("it is taken up in any case", letGo("00,00,00,00;l1@0,l1@1", 1, 9), 1, NONE, NONE);
         VillageBall x = letGo("00,00,00,00;l4@0,p5@1", 1, 9);
         dueSpare("while the other one lies", x, 1, 1, 1);

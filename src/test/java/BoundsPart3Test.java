@@ -17,7 +17,7 @@ public final class BoundsPart3Test {
     }
 
     @Says(at = "==== 3", text = "behind each of n STEPS (1 .. 8; where it RESTS it is on), LET GO now, GREAT by g")
-    private static void seen_1To8Steps() {
+    private static void promise24_seen_1To8Steps() {
         VillageBall x = Villages.level(24);
         Villages.row(x, 1, 2, 3, 4, 5, 6, 7, 8, 9);
         dueSeen("1", x, 1, 0, 1, 19, 1);
@@ -30,7 +30,7 @@ public final class BoundsPart3Test {
     }
 
     @Says(at = "==== 3", text = "behind each of n STEPS (1 .. 8; where it RESTS it is on), LET GO now, GREAT by g")
-    private static void seen_whereItRestsItIsOn() {
+    private static void promise24_seen_whereItRestsItIsOn() {
         VillageBall x = Villages.level(4);
         Villages.row(x, 0, 0, 0, 0, 0, 0, 0, 0, 4, 4, 4, 4, 4, 4, 4, 4, 3, 4, 4, 0, 1);
         dueSeen("8 times at the top", x, 1, 0, 8, 1, 0);
@@ -40,7 +40,7 @@ public final class BoundsPart3Test {
     }
 
     @Says(at = "==== 3", text = "behind each of n STEPS (1 .. 8; where it RESTS it is on), LET GO now, GREAT by g")
-    private static void seen_whereItRestsItIsOn_thoughTheSlopeDrops() {
+    private static void promise24_seen_whereItRestsItIsOn_thoughTheSlopeDrops() {
         // The first thing stops it, the second makes it great enough for the first: a step more would go on.
         VillageBall x = Check.ofText("90,90,90,90;p9@0,l9@0");
         Villages.row(x, 0, 0, 0, 0, 0, 0, 0, 0, 1);
@@ -50,7 +50,7 @@ public final class BoundsPart3Test {
 
     @Says(at = "==== 3", text = "by how much it might be FAST (0 .. 99) so that it would be so: how many such numbers;"
         + " the least; none.")
-    private static void seen_fastBy0To99() {
+    private static void promise24_seen_fastBy0To99() {
         VillageBall x = Villages.level(24);
         Villages.row(x, 0, 1, 2, 3, 4, 5, 6);
         dueSeen("0 is tried", x, 1, 0, 1, 1, 0);
@@ -63,7 +63,7 @@ public final class BoundsPart3Test {
 
     @Says(at = "==== 3", text = "by how much it might be FAST (0 .. 99) so that it would be so: how many such numbers;"
         + " the least; none.")
-    private static void seen_99Alone() {
+    private static void promise24_seen_99Alone() {
         // Great by 99, then by 108: 99 less 9, less 10 is 80, which is just enough for a leap of five.
         VillageBall x = Check.ofText("09," + Check.cells("00", 23));
         Villages.row(x, 5, 10);
@@ -72,7 +72,7 @@ public final class BoundsPart3Test {
 
     @Says(at = "==== 3", text = "by how much it might be FAST (0 .. 99) so that it would be so: how many such numbers;"
         + " the least; none.")
-    private static void seen_noneIsSoAtNoPlaceOfTheSlope() {
+    private static void promise24_seen_noneIsSoAtNoPlaceOfTheSlope() {
         VillageBall x = Villages.level(4);
         Villages.rowOf(x, 0, 3, -1, 5, Long.MAX_VALUE, Long.MIN_VALUE, 1L << 32, (1L << 32) + 4);
         for (int i = 0; i < 6; i++) {
@@ -84,7 +84,7 @@ public final class BoundsPart3Test {
     // ---- undone
 
     @Says(at = "==== 3", text = "(8 are known, older ones lost)")
-    private static void undone_8AreKnown() {
+    private static void promise14_undone_8AreKnown() {
         VillageBall x = Villages.level(24);
         for (int k = 1; k <= 8; k++) {
             x.go(k, 0);
@@ -100,7 +100,7 @@ public final class BoundsPart3Test {
     }
 
     @Says(at = "==== 3", text = "(8 are known, older ones lost)")
-    private static void undone_olderOnesAreLost() {
+    private static void promise14_undone_olderOnesAreLost() {
         for (int goes = 9; goes <= 18; goes++) {
             VillageBall x = Villages.level(4);
             for (int k = 1; k <= goes; k++) {
@@ -117,7 +117,7 @@ public final class BoundsPart3Test {
     }
 
     @Says(at = "==== 3", text = "(8 are known, older ones lost)")
-    private static void undone_stepsAndDaysOfOneCallCountEach() {
+    private static void promise14_undone_stepsAndDaysOfOneCallCountEach() {
         VillageBall x = Villages.level(24);
         x.go(50, 99);
         Bounds.due("steps", x.steps(24), 6);
@@ -133,7 +133,7 @@ public final class BoundsPart3Test {
     }
 
     @Says(at = "==== 3", text = "(8 are known, older ones lost)")
-    private static void undone_makesRoomAgain() {
+    private static void promise14_undone_makesRoomAgain() {
         VillageBall x = Villages.level(4);
         for (int k = 1; k <= 10; k++) {
             x.go(k, 0);
@@ -155,7 +155,7 @@ public final class BoundsPart3Test {
     }
 
     @Says(at = "==== 3", text = "THE BALL, SNOW, where THINGS are, the order, THE DRAW are as ahead of it, whatever was told since")
-    private static void undone_whateverWasToldSince() {
+    private static void promise14_undone_whateverWasToldSince() {
         VillageBall x = Villages.level(4);
         x.go(7, 0);
         x.cell(3, 1, 9);
@@ -169,7 +169,7 @@ public final class BoundsPart3Test {
     }
 
     @Says(at = "==== 3", text = "THE BALL, SNOW, where THINGS are, the order, THE DRAW are as ahead of it, whatever was told since")
-    private static void undone_whatIsBackLiesOrIsInItAgain() {
+    private static void promise14_undone_whatIsBackLiesOrIsInItAgain() {
         VillageBall x = Villages.stepped("l1@0,l2@0", 1, 1);
         x.go(1, 1);
         Bounds.due("back", x.of(1, 4), 1);
@@ -180,7 +180,7 @@ public final class BoundsPart3Test {
     }
 
     @Says(at = "==== 3", text = "THE BALL, SNOW, where THINGS are, the order, THE DRAW are as ahead of it, whatever was told since")
-    private static void undone_theOrderThoughAnotherOneCame() {
+    private static void promise14_undone_theOrderThoughAnotherOneCame() {
         VillageBall x = Check.ofText("10,10,00,00;l1@1,l2@0,l3@2,l4@3");
         x.go(1, 0);
         x.steps(2);
@@ -197,7 +197,7 @@ public final class BoundsPart3Test {
     }
 
     @Says(at = "==== 3", text = "a VILLAGE, a new THING leave nothing to be UNDONE")
-    private static void undone_nothingBehindAVillage() {
+    private static void promise14_undone_nothingBehindAVillage() {
         VillageBall x = Villages.rolling();
         x.village();
         Bounds.due("a fault leaves all", x.count(8), 3);
@@ -207,7 +207,7 @@ public final class BoundsPart3Test {
     }
 
     @Says(at = "==== 3", text = "a VILLAGE, a new THING leave nothing to be UNDONE")
-    private static void undone_nothingBehindANewThing() {
+    private static void promise14_undone_nothingBehindANewThing() {
         VillageBall x = Villages.rolling();
         Bounds.due("refused, it leaves all", x.thing(5, 0, 0), BAD);
         Bounds.due("three", x.count(8), 3);
@@ -222,7 +222,7 @@ public final class BoundsPart3Test {
     // ---- the draw
 
     @Says(at = "==== 3", text = "THE DRAW is a number of 31 bits (1 at first)")
-    private static void draw_1AtFirst_0To31Bits() {
+    private static void promise15_draw_1AtFirst_0To31Bits() {
         VillageBall x = new VillageBall();
         Bounds.due("at first", x.seed(0), 1);
         Bounds.due("0 may be", x.seed(Integer.MAX_VALUE), 0);
@@ -238,7 +238,7 @@ public final class BoundsPart3Test {
     }
 
     @Says(at = "==== 3", text = "it becomes the lowest 31 bits of itself times 1103515245 and 12345 more")
-    private static void draw_wrapsAround() {
+    private static void promise13_draw_wrapsAround() {
         dueDraw(0, 12345);
         dueDraw(1, 1103527590L);
         // 2 times the factor is 2207030490, which is above 31 bits by 59546842.
@@ -261,7 +261,7 @@ public final class BoundsPart3Test {
     }
 
     @Says(at = "==== 3", text = "on the CELL that is it by 65536, left over by how many there are")
-    private static void draw_firstAndLastCell() {
+    private static void promise13_draw_firstAndLastCell() {
         for (int cells : new int[] {4, 5, 23, 24}) {
             dueFall(cells, 0, 0);
             dueFall(cells, 65535, 0);
@@ -273,7 +273,7 @@ public final class BoundsPart3Test {
     }
 
     @Says(at = "==== 3", text = "1 SNOW more falls (9 at most)")
-    private static void draw_snow9AtMost() {
+    private static void promise13_draw_snow9AtMost() {
         VillageBall x = Check.ofText("09,08,00,00");
         x.seed(Villages.seedAheadOf(0));
         Bounds.due("on 9", x.drift(1), 17);
@@ -296,7 +296,7 @@ public final class BoundsPart3Test {
     }
 
     @Says(at = "==== 3", text = "A VILLAGE is a TEXT: 4 to 24 CELLS with , between")
-    private static void village_4To24Cells() {
+    private static void promise07_village_4To24Cells() {
         dueFault("", 0);
         for (int cells = 1; cells < 4; cells++) {
             dueFault(Check.cells("12", cells), 3 * cells - 1);
@@ -310,7 +310,7 @@ public final class BoundsPart3Test {
     }
 
     @Says(at = "==== 3", text = "A VILLAGE is a TEXT: 4 to 24 CELLS with , between")
-    private static void village_commasOnlyBetween() {
+    private static void promise07_village_commasOnlyBetween() {
         dueFault(",12,12,12,12", 0);
         dueFault("12,,12,12,12", 3);
         dueFault("12,12,12,12,", 12);
@@ -319,7 +319,7 @@ public final class BoundsPart3Test {
     }
 
     @Says(at = "==== 3", text = "each a digit (DROP), a digit (SNOW)")
-    private static void village_twoDigitsEach() {
+    private static void promise07_village_twoDigitsEach() {
         VillageBall x = Check.ofText("09,90,00,99");
         Bounds.dueAll("snow", Check.snows(x), 9, 0, 0, 9);
         Bounds.due("drop 0", x.at(0, 0), 0);
@@ -335,7 +335,7 @@ public final class BoundsPart3Test {
     }
 
     @Says(at = "==== 3", text = "then perhaps ; and 1 to 8 THINGS with , between")
-    private static void village_1To8Things() {
+    private static void promise07_village_1To8Things() {
         dueText("12,12,12,12", 4);
         dueFault("12,12,12,12;", 12);
         for (int things = 1; things <= 8; things++) {
@@ -352,7 +352,7 @@ public final class BoundsPart3Test {
     }
 
     @Says(at = "==== 3", text = "p l s w g (KINDS in this order), a digit (HEAVY), then @")
-    private static void village_kindHeavyAt() {
+    private static void promise07_village_kindHeavyAt() {
         VillageBall x = Check.ofText("12,12,12,12;p0@0,l9@1,s1@2,w2@3,g3@0");
         for (int t = 0; t < 5; t++) {
             Bounds.due("kind of " + t, x.of(t, 0), t);
@@ -374,7 +374,7 @@ public final class BoundsPart3Test {
     }
 
     @Says(at = "==== 3", text = "and a number of a CELL there is")
-    private static void village_aCellThereIs() {
+    private static void promise07_village_aCellThereIs() {
         dueText("12,12,12,12;p1@0", 4);
         dueText("12,12,12,12;p1@3", 4);
         dueFault("12,12,12,12;p1@4", 15);
@@ -390,7 +390,7 @@ public final class BoundsPart3Test {
     }
 
     @Says(at = "==== 3", text = "in place of THE SLOPE, of all THINGS; THE BALL as at first (THE DRAW stays)")
-    private static void village_inPlaceOfAll_evenOfAFullOne() {
+    private static void promise07_village_inPlaceOfAll_evenOfAFullOne() {
         VillageBall x = Villages.full();
         x.village();
         x.seed(Integer.MAX_VALUE);
@@ -403,7 +403,7 @@ public final class BoundsPart3Test {
     }
 
     @Says(at = "==== 3", text = "Numbers have 1 or 2 digits.")
-    private static void village_numbersOf1Or2Digits() {
+    private static void promise07_village_numbersOf1Or2Digits() {
         String cells = Check.cells("12", 24);
         dueText(cells + ";p1@3", 24);
         dueText(cells + ";p1@03", 24);
@@ -417,7 +417,7 @@ public final class BoundsPart3Test {
     }
 
     @Says(at = "==== 3", text = "FAULTS: -20 less the place of the first letter (behind blanks) that can't stand there")
-    private static void fault_firstLetterBehindBlanks() {
+    private static void promise07_fault_firstLetterBehindBlanks() {
         dueFault("x", 0);
         dueFault("   x", 3);
         dueFault("1   x", 4);
@@ -434,7 +434,7 @@ public final class BoundsPart3Test {
     }
 
     @Says(at = "==== 3", text = "or of the number's first digit, if it is not as told")
-    private static void fault_theNumbersFirstDigit() {
+    private static void promise07_fault_theNumbersFirstDigit() {
         dueFault("12,12,12,12;p1@4", 15);
         dueFault("12,12,12,12;p1@04", 15);
         dueFault("12,12,12,12;p1@   10", 18);
@@ -443,7 +443,7 @@ public final class BoundsPart3Test {
     }
 
     @Says(at = "==== 3", text = "(the end: how many there are)")
-    private static void fault_atTheEnd() {
+    private static void promise07_fault_atTheEnd() {
         dueFault("", 0);
         dueFault("1", 1);
         dueFault("12", 2);
@@ -457,7 +457,7 @@ public final class BoundsPart3Test {
     }
 
     @Says(at = "==== 3", text = "blanks count for nothing, but end a number")
-    private static void blanks_countForNothing() {
+    private static void promise07_blanks_countForNothing() {
         dueText(" 1 2 , 1 2 , 1 2 , 1 2 ", 4);
         VillageBall x = Check.ofText("  9 1,8  2,73 ,6 4 ;  p  5  @  03  , l6@1 ");
         Bounds.dueAll("snow", Check.snows(x), 1, 2, 3, 4);
@@ -469,7 +469,7 @@ public final class BoundsPart3Test {
     }
 
     @Says(at = "==== 3", text = "blanks count for nothing, but end a number")
-    private static void blanks_behindTheLastThatMayBe() {
+    private static void promise07_blanks_behindTheLastThatMayBe() {
         String cells = Check.cells("12", 24);
         String things = Check.cells("p1@0", 8);
         dueText(cells + "   ", 24);
@@ -480,7 +480,7 @@ public final class BoundsPart3Test {
     }
 
     @Says(at = "==== 3", text = "blanks count for nothing, but end a number")
-    private static void blanks_endANumber() {
+    private static void promise07_blanks_endANumber() {
         String cells = Check.cells("12", 24);
         dueFault(cells + ";p1@1 2", 77);
         dueFault(cells + ";p1@1  2", 78);
