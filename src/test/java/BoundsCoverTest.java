@@ -1,17 +1,11 @@
 import java.io.IOException;
-import java.lang.reflect.Method;
-import java.util.ArrayList;
 import java.util.List;
 import java.util.Map;
-import java.util.TreeMap;
 import java.util.regex.Matcher;
 import java.util.regex.Pattern;
 
 /** Every place of the document that names a bound stands in the words of a test of the bounds. */
 public final class BoundsCoverTest {
-    private static final List<Class<?>> TESTS = List.of(BoundsTermsTest.class, BoundsPart1Test.class,
-        BoundsPart2Test.class, BoundsPart3Test.class, BoundsPromises1To8Test.class, BoundsPromises9To15Test.class,
-        BoundsPromises16To23Test.class, BoundsPromises24To29Test.class);
     private static final Pattern BOUND = Pattern.compile("\\d+ \\.\\. \\d+|\\d+ to \\d+|\\d+ at (most|least)|\\bat first\\b"
         + "|\\bnone\\b|\\bor more\\b|\\babove\\b|\\bbelow 0\\b|\\bin any case\\b|\\bfor good\\b|\\blost\\b|\\bof like ones\\b"
         + "|\\btill\\b|\\bempty\\b|\\blowest\\b|\\bleft over\\b|\\b1 or 2 digits\\b|\\bthe end\\b|\\bbeyond\\b|\\brefused\\b"
@@ -26,12 +20,13 @@ public final class BoundsCoverTest {
             return;
         }
         int bounds = 0;
-        for (Map.Entry<String, List<String>> part : quotes().entrySet()) {
+        Map<String, List<String>> quotes = Quotes.byPart(Quotes.ofBounds());
+        for (Map.Entry<String, List<String>> part : quotes.entrySet()) {
             bounds += look(part.getKey(), doc.text(part.getKey()), part.getValue());
         }
         for (String name : doc.names()) {
             boolean named = name.startsWith("Promise ") || name.startsWith("==== ");
-            due(!named || quotes().containsKey(name), name + " has a test");
+            due(!named || quotes.containsKey(name), name + " has a test");
         }
         System.out.println("BoundsCoverTest: " + bounds + " bounds are named, " + wrong + " without a test");
         if (wrong != 0 || bounds == 0) {
@@ -46,36 +41,14 @@ public final class BoundsCoverTest {
         }
     }
 
-    private static Map<String, List<String>> quotes() {
-        Map<String, List<String>> quotes = new TreeMap<>();
-        for (Class<?> tests : TESTS) {
-            for (Method m : Bounds.inOrder(tests)) {
-                Says says = m.getAnnotation(Says.class);
-                quotes.computeIfAbsent(says.at(), part -> new ArrayList<>()).add(says.text());
-            }
-        }
-        return quotes;
-    }
-
     private static int look(String part, String text, List<String> quotes) {
         int bounds = 0;
-        // The head of a promise and its face are code, not sentences.
-        Matcher found = BOUND.matcher(Pattern.compile("`[^`]*`").matcher(text).replaceAll(m -> " ".repeat(m.group().length())));
+        Matcher found = BOUND.matcher(Doc.withoutCode(text));
         while (found.find()) {
             bounds++;
-            due(isQuoted(text, quotes, found.start(), found.end()),
+            due(Quotes.hold(text, quotes, found.start(), found.end()),
                 part + ": \"" + text.substring(Math.max(0, found.start() - 30), found.end()) + "\" is tested");
         }
         return bounds;
-    }
-
-    private static boolean isQuoted(String text, List<String> quotes, int start, int end) {
-        for (String quote : quotes) {
-            int place = text.indexOf(quote);
-            if (place >= 0 && place <= start && end <= place + quote.length()) {
-                return true;
-            }
-        }
-        return false;
     }
 }

@@ -7,6 +7,7 @@ import java.nio.file.Files;
 import java.nio.file.Path;
 import java.util.Set;
 import java.util.TreeSet;
+import java.util.regex.Matcher;
 import java.util.regex.Pattern;
 
 /** The face, and those rules of LANGUAGE.md that can be seen from outside or from the words of the file. */
@@ -22,6 +23,10 @@ public final class LanguageTest {
         "System\\.(?!arraycopy)", "Exact\\b", "\\bhashCode\\b", "\\btoString\\b", "\\bObject\\b", "[^\\x00-\\x7f]",
         "\\bdouble\\b", "\\bfloat\\b", "while \\(true\\)", "for \\(;;\\)"};
 
+    private static final Pattern CALL = Pattern.compile("public int (\\w+)\\(([^)]*)\\)");
+    private static final Pattern SECTION =
+        Pattern.compile("Ahead of the calls ((?:`\\w+`,? ?)+) ?the interface says: ---- ([^.:]*?)(?: 0 \\.\\. 3)?[.:]");
+
     private static int wrong;
 
     public static void main(String[] args) throws IOException {
@@ -31,7 +36,13 @@ public final class LanguageTest {
         }
         due(VillageBall.class.getDeclaredClasses().length <= 11, "at most some twelve classes");
         String path = args.length > 0 ? args[0] : "src/main/java/VillageBall.java";
-        source(Files.readString(Path.of(path)));
+        String text = Files.readString(Path.of(path));
+        source(text);
+        Doc doc = Doc.read();
+        if (doc != null) {
+            faceOfTheDocument(doc.text("The public face"));
+            sections(doc.text("Ahead of the calls"), text);
+        }
         System.out.println("LanguageTest: " + wrong + " wrong");
         if (wrong != 0) {
             System.exit(1);
@@ -84,6 +95,42 @@ public final class LanguageTest {
         }
         due(constants.equals(new TreeSet<>(CONSTANTS)), "the constants of the face are " + constants);
         fieldCount(c);
+    }
+
+    /** The calls that are asked for above are those of the document. */
+    private static void faceOfTheDocument(String face) {
+        Set<String> calls = new TreeSet<>();
+        Matcher call = CALL.matcher(face);
+        while (call.find()) {
+            calls.add(call.group(1) + "(" + call.group(2).replaceAll("(int|long) \\w+", "$1").replace(" ", "") + ")");
+        }
+        due(calls.equals(new TreeSet<>(CALLS)), "the document's calls are " + calls);
+    }
+
+    /** Behind the words that stand ahead of them in the document, the class has the same calls in the same order. */
+    private static void sections(String ahead, String text) {
+        Matcher said = SECTION.matcher(ahead);
+        int sections = 0;
+        while (said.find()) {
+            sections++;
+            String calls = said.group(1).replaceAll("[`,]", "").trim();
+            String head = "// ---- " + said.group(2) + "\n";
+            int start = text.indexOf(head);
+            due(start >= 0, "the class says " + head.trim());
+            int end = text.indexOf("// ---- ", start + head.length());
+            due(calls.equals(callsIn(text.substring(Math.max(0, start), Math.max(start, end)))),
+                head.trim() + " is ahead of " + calls);
+        }
+        due(sections == 4, "the document has four sections of calls");
+    }
+
+    private static String callsIn(String section) {
+        StringBuilder calls = new StringBuilder();
+        Matcher call = CALL.matcher(section);
+        while (call.find()) {
+            calls.append(calls.length() == 0 ? "" : " ").append(call.group(1));
+        }
+        return calls.toString();
     }
 
     private static void fieldRule(Field f) {

@@ -3,7 +3,7 @@ import java.lang.annotation.Retention;
 import java.lang.annotation.RetentionPolicy;
 import java.lang.annotation.Target;
 
-/** The sentence of the document that a test of the bounds stands for, and where the document says it. */
+/** The sentence of the document that a test stands for, and where the document says it. */
 @Retention(RetentionPolicy.RUNTIME)
 @Target(ElementType.METHOD)
 @interface Says {
